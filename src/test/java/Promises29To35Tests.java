@@ -200,6 +200,20 @@ public final class Promises29To35Tests extends Bench {
 
     @Sentence("Finds the most informative time: the signals of which() are divided by their recorded values"
         + " at this time (UNKNOWN is a value here); the greatest of these groups is as small as possible;")
+    void promise32UnknownIsOneGroup() {
+        fine("a:8;b:8;c:8;d=0&a;", 4);
+        x.dumps(0);
+        passTo(2);
+        // At 0: four 0; from 1 on: three UNKNOWN and a 0; from 2 on, then: two 1 and two 0.
+        due(x.look(), 1);
+        x.sets(0, 1);
+        x.sets(1, 1);
+        x.dumps(1);
+        due(x.look(), 2);
+    }
+
+    @Sentence("Finds the most informative time: the signals of which() are divided by their recorded values"
+        + " at this time (UNKNOWN is a value here); the greatest of these groups is as small as possible;")
     void promise32SignalsOfWhich() {
         fine("a:8;b:8;c:8;", 3);
         x.sets(2, 5);
