@@ -600,12 +600,17 @@ public final class SignalWaves {
     }
 
     private int roomOfGroup(int begin, int s) {
-        int room = gathered.room(design.wires, begin, 0, Math.min(s, gathered.count));
-        for (int from = s; from < gathered.count; from += s) {
-            int to = Math.min(from + s, gathered.count);
-            room += gathered.room(design.wires, gathered.times[from], from, to);
+        int room = 0;
+        int from = 0;
+        int start = begin;
+        for (int to = 1; to < gathered.count; to++) {
+            if (to - from == s) {
+                room += gathered.room(design.wires, start, from, to);
+                from = to;
+                start = gathered.times[to];
+            }
         }
-        return room;
+        return room + gathered.room(design.wires, start, from, gathered.count);
     }
 
     private int agreeing() {

@@ -7,8 +7,8 @@ import java.util.function.IntUnaryOperator;
 
 /**
  * What the tests of single sentences share. Each method with a Sentence is a test of its own, with
- * a new object; its name begins with the promise in which the sentence stands, or with
- * "description".
+ * a new object; its name begins with the promise in which the sentence stands, or with "what",
+ * "face" or "description" for the parts of the document before them.
  */
 abstract class Bench {
     static final int BAD = -1, STATE = -2, FULL = -3, UNKNOWN = -7, NONE = -9;

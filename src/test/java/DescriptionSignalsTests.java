@@ -4,19 +4,6 @@ public final class DescriptionSignalsTests extends Bench {
         run(DescriptionSignalsTests.class);
     }
 
-    @Sentence("An object is used for at most 512 calls after it has been made")
-    void whatItIsAllOf512Calls() {
-        for (int i = 1; i <= 160; i++) {
-            due(x.type(' '), i);
-        }
-        for (int i = 161; i <= 509; i++) {
-            due(x.type(' '), FULL);
-        }
-        due(x.tells(), 0);
-        due(x.type('a'), 1);
-        due(x.count(11), 1);
-    }
-
     @Sentence("BAD (-1): an argument is out of range or names something that does not exist.")
     void descriptionBad() {
         due(SignalWaves.BAD, -1);

@@ -24,6 +24,31 @@ public final class Promises1To9Tests extends Bench {
         due(x.clear(), 0);
     }
 
+    @Sentence("Creates an object without signals and scopes, with an empty text buffer, without"
+        + " observations and images.")
+    void promise1ObjectOfItsOwn() {
+        SignalWaves first = x;
+        fine("[s;a:8;", 2);
+        SignalWaves second = x;
+        send("b");
+        x.sets(0, 9);
+        x.passes(4);
+        x.keep(0);
+        x.sees(0, 9);
+        x = first;
+        promise1NewObject();
+        fine("b:1;c=2;", 2);
+        due(x.about(1, 5), 2);
+        x = second;
+        int[] counts = {1, 1, 1, 4, 1, 4, 1, 0, 1, 2 + 1 + 2 + 1, 1, 1, 2};
+        for (int what = 0; what < counts.length; what++) {
+            due(x.count(what), counts[what]);
+        }
+        due(x.at(0, 4), 9);
+        due(x.which(), 1);
+        due(x.back(0), 4);
+    }
+
     // ---- Promise 2
 
     @Sentence("Appends a byte to the text buffer.")

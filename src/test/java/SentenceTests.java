@@ -5,6 +5,7 @@ import java.nio.file.Files;
 import java.nio.file.Path;
 import java.util.BitSet;
 import java.util.Map;
+import java.util.Set;
 import java.util.TreeMap;
 import java.util.regex.Matcher;
 import java.util.regex.Pattern;
@@ -18,14 +19,10 @@ public final class SentenceTests {
     private static final Path TESTS = Path.of("src/test/java");
     private static final int PROMISES = 35;
 
-    /** Headings, and words about the document itself. */
+    /** Headings, and what the document leaves free. */
     private static final String[][] NOTHING_TO_TEST = {
-        {"what", "A store for signal waveforms, as in the trace file of a simulator: wires in scopes,"
-            + " aliases and derived signals are described by a text; changes of the wires are recorded in"
-            + " blocks with a frame and a dictionary; the value of every signal at any time, edges, delays"
-            + " and sizes of the record can be queried."},
         {"what", "what later calls answer is free."},
-        {"description", "All numbers are integers. Error codes."},
+        {"description", "Error codes."},
         {"description", "Signals and scopes."},
         {"description", "Text."},
         {"description", "The items are:"},
@@ -34,10 +31,10 @@ public final class SentenceTests {
         {"description", "Recorded values."},
         {"description", "Room."},
         {"description", "Observations."},
-        {"description", "Examples: Each of them begins with a new object; the results are given behind the"
-            + " calls."},
-        {"description", "The constructor and the methods follow, a promise each: the signature, then what it"
-            + " does."},
+        {"not", "How the state is held inside the object is free, as are the speed of each call, the text of"
+            + " toString and the behaviour of equals and hashCode. Use of one object from several threads at"
+            + " once is not promised to be safe. Nothing is promised beyond the answers and state changes"
+            + " described above, and nothing about an object after its 512th call."},
     };
 
     private final Map<String, String> texts = new TreeMap<>();
@@ -57,7 +54,7 @@ public final class SentenceTests {
         Check.close();
     }
 
-    /** The parts of the document: "what", "description", "promise1" and so on. */
+    /** The parts of the document: "what", "face", "description", "promise1" and so on, "not". */
     private void readDocument() throws IOException {
         String[] parts = Files.readString(DOCUMENT).split("(?m)^## ");
         for (String part : parts) {
@@ -65,9 +62,10 @@ public final class SentenceTests {
             String title = part.substring(0, end);
             Matcher promise = Pattern.compile("Promise (\\d+): .*").matcher(title);
             String name = promise.matches() ? "promise" + promise.group(1)
-                : title.replaceAll(" .*", "").toLowerCase();
-            String text = part.substring(end)
-                .replaceAll("(?m)^`.*\\)`$", "").replaceAll("(?m)^---- .*$", "");
+                : title.replace("The public ", "").replaceAll(" .*", "").toLowerCase();
+            // FaceTests look at the signatures; the lines with ---- are headings.
+            String text = part.substring(end).replaceAll("(?m)^`.*\\)`$", "")
+                .replaceAll("(?m)^---- .*$", "").replaceAll("(?m)^```.*$", "");
             texts.put(name, plain(text));
             quoted.put(name, new BitSet());
         }
@@ -76,6 +74,8 @@ public final class SentenceTests {
             promises += name.startsWith("promise") ? 1 : 0;
         }
         Check.due("promises in the document", promises, PROMISES);
+        Check.holds("the other parts are known: " + texts.keySet(), texts.size() == PROMISES + 5
+            && texts.keySet().containsAll(Set.of("#", "what", "face", "description", "not")));
     }
 
     private static String plain(String text) {
@@ -110,12 +110,9 @@ public final class SentenceTests {
         }
     }
 
-    /** Each letter and digit of the document's description and promises stands in a quotation. */
+    /** Each letter and digit of the document stands in a quotation. */
     private void lookForGaps() {
         for (String part : texts.keySet()) {
-            if (!part.startsWith("promise") && !part.equals("description") && !part.equals("what")) {
-                continue;
-            }
             String text = texts.get(part);
             for (int i = 0; i < text.length(); i++) {
                 if (Character.isLetterOrDigit(text.charAt(i)) && !quoted.get(part).get(i)) {
